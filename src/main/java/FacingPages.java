@@ -102,7 +102,7 @@ public final class FacingPages {
         if (!book.hasWord(s, p, k) || !within(what, 0, 1)) {
             return refuse(BAD);
         }
-        return what == 0 ? book.lengthOf(s, p, k) : book.lineOf(s, p, k);
+        return what == 0 ? book.lengthOf(s, p, k) : book.lineOf(Book.slot(s, p), k);
     }
 
     public int tie(int i, int what) {
@@ -415,6 +415,7 @@ public final class FacingPages {
             return i >= 0 && i < tieCount;
         }
 
+        /** Where a PARAGRAPH's WORDS are held: SIDE 1 behind all that SIDE 0 can have. */
         private static int slot(int s, int p) {
             return s * MOST_PARAGRAPHS + p;
         }
@@ -427,13 +428,15 @@ public final class FacingPages {
             return lengths[slot(s, p) * MOST_WORDS + k];
         }
 
-        /** The LINE of its PARAGRAPH in which WORD k is. */
-        private int lineOf(int s, int p, int k) {
+        /** The LINE of the PARAGRAPH in this slot in which its WORD k is. */
+        private int lineOf(int slot, int k) {
+            int room = width[slot / MOST_PARAGRAPHS];
+            int at = slot * MOST_WORDS;
             int line = 0;
-            int used = lengthOf(s, p, 0);
+            int used = lengths[at];
             for (int i = 1; i <= k; i++) {
-                int length = lengthOf(s, p, i);
-                if (used + 1 + length <= width[s]) {
+                int length = lengths[at + i];
+                if (used + 1 + length <= room) {
                     used += 1 + length;
                 } else {
                     line++;
@@ -443,14 +446,14 @@ public final class FacingPages {
             return line;
         }
 
-        private int linesIn(int s, int p) {
-            return lineOf(s, p, wordsIn(s, p) - 1) + 1;
+        private int linesIn(int slot) {
+            return lineOf(slot, words[slot] - 1) + 1;
         }
 
         private int linesOfSide(int s) {
             int sum = 0;
             for (int p = 0; p < paragraphs[s]; p++) {
-                sum += linesIn(s, p);
+                sum += linesIn(slot(s, p));
             }
             return sum;
         }
@@ -465,9 +468,10 @@ public final class FacingPages {
             if (p >= MOST_PARAGRAPHS) {
                 return FULL;
             }
-            words[slot(s, p)] = n;
-            System.arraycopy(row, at, lengths, slot(s, p) * MOST_WORDS, n);
-            if (linesOfSide(s) + linesIn(s, p) > MOST_LINES) {
+            int slot = slot(s, p);
+            words[slot] = n;
+            System.arraycopy(row, at, lengths, slot * MOST_WORDS, n);
+            if (linesOfSide(s) + linesIn(slot) > MOST_LINES) {
                 return FULL;
             }
             paragraphs[s]++;
@@ -725,7 +729,7 @@ public final class FacingPages {
             total = 0;
             first[0] = 0;
             for (int p = 0; p < book.paragraphs[s]; p++) {
-                int own = book.linesIn(s, p);
+                int own = book.linesIn(Book.slot(s, p));
                 allowBreaks(own, book.settings[LEAST]);
                 total += own;
                 first[p + 1] = total;
