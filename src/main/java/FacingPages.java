@@ -871,14 +871,16 @@ public final class FacingPages {
                 return 0;
             }
             int best = NEVER;
-            int most0 = Math.min(high, total0 - i);
-            int most1 = Math.min(high, total1 - j);
-            for (int x = 0; x <= most0; x++) {
+            for (int x = Math.min(high, total0 - i); x >= 0; x--) {
                 if (!allowed0[i + x]) {
                     continue;
                 }
-                for (int y = x == 0 ? 1 : 0; y <= most1; y++) {
-                    best = Math.min(best, rankBy(i, j, x, y));
+                int rests = (i + x) * ROW + j;
+                for (int y = Math.min(high, total1 - j); x + y > 0 && y >= 0; y--) {
+                    // A rest that is as dear as the best way by itself leads to no better one.
+                    if (rank[rests + y] < best) {
+                        best = Math.min(best, rankBy(i, j, x, y));
+                    }
                 }
             }
             return best;
