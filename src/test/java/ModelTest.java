@@ -8,12 +8,16 @@ public final class ModelTest {
         "w 2 20;", "w 0 8;", "h 1;", "h 13;", "l 4;", "s 10;", "t 9 0 1;", "b 4 4 4;", " ", "  ", "a 5 5;", "b 5 5;"};
     private static final String SIGNS = "ab t w h l s ; ; 0 1 2 3 4 5 6 7 8 9 99 x";
 
+    /** Calls of one object: digest() and the end of a text come on top, and all stay within 512. */
+    private static final int ENOUGH = 505;
+
     private final Random random;
     private final FacingPages real = new FacingPages();
     private final Model model = new Model();
     private final String run;
     private final int wild;
     private final int kind;
+    private int calls;
 
     private ModelTest(int seed) {
         random = new Random(seed);
@@ -30,15 +34,18 @@ public final class ModelTest {
     }
 
     private void play() {
-        int calls = 0;
-        while (calls < 500 && Check.allRight()) {
-            calls += random.nextInt(5) < 3 ? change() : ask();
+        while (calls < ENOUGH && Check.allRight()) {
+            if (random.nextInt(5) < 3) {
+                change();
+            } else {
+                ask();
+            }
             if (random.nextInt(12) == 0) {
                 due("digest()", real.digest(), model.digest());
-                calls++;
             }
         }
         due("digest() at the end", real.digest(), model.digest());
+        Check.isTrue(run + "at most 512 calls", calls <= 512);
     }
 
     /** A number from..to, now and then one at or beyond an edge. */
@@ -55,10 +62,11 @@ public final class ModelTest {
     }
 
     private void due(String call, long got, long want) {
+        calls++;
         Check.due(run + call, got, want);
     }
 
-    private int change() {
+    private void change() {
         int pick = random.nextInt(kind == 1 ? 24 : 20);
         if (pick < 5) {
             int s = number(0, 1);
@@ -88,12 +96,11 @@ public final class ModelTest {
         } else if (pick < 18) {
             due("back()", real.back(), model.back());
         } else {
-            return text();
+            text();
         }
-        return 1;
     }
 
-    private int text() {
+    private void text() {
         StringBuilder text = new StringBuilder();
         int parts = 1 + random.nextInt(kind == 1 ? 14 : 4);
         for (int i = 0; i < parts; i++) {
@@ -105,6 +112,7 @@ public final class ModelTest {
         if (random.nextInt(6) == 0) {
             text.setLength(random.nextInt(text.length() + 1));
         }
+        text.setLength(Math.min(text.length(), ENOUGH - calls));
         if (random.nextInt(5) != 0) {
             due("clear()", real.clear(), model.clear());
         }
@@ -112,10 +120,9 @@ public final class ModelTest {
             due("type(" + (int) c + ")", real.type(c), model.type(c));
         }
         due("does() of " + text, real.does(), model.does());
-        return text.length() + 2;
     }
 
-    private int ask() {
+    private void ask() {
         int pick = random.nextInt(9);
         int s = number(0, 1);
         int p = number(0, some(s == 1 ? 1 : 0));
@@ -151,6 +158,5 @@ public final class ModelTest {
                 due("type(" + c + ")", real.type(c), model.type(c));
             }
         }
-        return 1;
     }
 }

@@ -22,12 +22,14 @@ public final class TermsEdgeTest {
         weight1To9();
         noTwoTiesOfTheSame();
         crossEitherWayRound();
+        crossAsTheyAreNow();
         keptOfNone();
         keptHeaviest();
         keptMostThenLeastBits();
         breaksFrom0ToAll();
         lawfulWithLeastOnBothSides();
         openingTakes0ToHigh();
+        mostOpenings();
         openingEndsAtLawfulBreaks();
         tiesOnOneOpening();
         onlyKeptTiesBind();
@@ -343,6 +345,27 @@ public final class TermsEdgeTest {
         }
     }
 
+    private static void crossAsTheyAreNow() {
+        Desk d = Desk.with("Two TIES CROSS, as all is now", "a1;a1;a1;b1;b1;b1;t 0 2 5;t 1 1 1;t 2 0 1;");
+        d.count(5, 3);
+        d.unties(1, 2);
+        d.count(5, 1);
+        d.tie(0, 4, 1);
+        d.tie(1, 4, 1);
+        d.drops(1, 2, 1);
+        d.count(5, 0);
+        d.tie(0, 4, 0);
+        d.ties(2, 1, 1, 1);
+        d.count(5, 0);
+        d.tie(0, 4, 0);
+        d.tie(1, 4, 0);
+        d.kept(3, 2);
+        d.back(3);
+        d.back(2);
+        d.count(5, 1);
+        d.kept(1, 5);
+    }
+
     private static void keptOfNone() {
         Desk d = new Desk("KEPT TIES without any TIES");
         d.kept(0, 0);
@@ -446,10 +469,31 @@ public final class TermsEdgeTest {
         d.openings(0, Desk.takes(3, 2));
         d = Desk.with(sentence, "w0 9;w1 9;h2;l1;s0;a 9 9;b 9 9 9;");
         d.openings(0, Desk.takes(2, 2), Desk.takes(0, 1));
-        // All that an object can hold, one LINE more than fits on five OPENINGS of 12 is on a sixth.
+        // All LINES that an object can hold.
         d = Desk.with(sentence, "w0 9;w1 9;h12;l1;a" + NINES + "a" + NINES + "a" + NINES, "a" + NINES + "a" + NINES,
                 "b" + NINES + "b" + NINES + "b" + NINES + "b" + NINES, "b 9 9 9 9 9 9 9 9 9 9 9;b 9;");
         d.openings(0, Desk.takes(12, 12), Desk.takes(12, 12), Desk.takes(12, 12), Desk.takes(12, 12), Desk.takes(12, 12));
+    }
+
+    /** SIDE 0 has to end where SIDE 1 begins, and a LINE alone costs 14, two together 40. */
+    private static void mostOpenings() {
+        Desk d = Desk.with("OPENINGS 0 on, as many as there can be", "w0 9;w1 9;h2;l1;s9;a" + NINES + "a" + NINES + "a" + NINES,
+                "a" + NINES + "a 9 9 9 9 9 9 9 9 9 9 9;a 9;", "b" + NINES + "b" + NINES + "b" + NINES + "b" + NINES);
+        d.does("b" + NINES + "t 5 0 1;", 2);
+        // 58 alone, then two of both, 56 alone, and two.
+        d.count(8, 116);
+        d.count(9, (58 + 56) * 14);
+        int[][] due = {{0, 1, 0, 0, 14}, {57, 1, 0, 0, 14}, {58, 2, 0, 2, 0}, {60, 0, 2, 1, 14}, {60, 0, 58, 2, 0}};
+        int[] at = {0, 57, 58, 59, 115};
+        for (int i = 0; i < at.length; i++) {
+            for (int what = 0; what < 5; what++) {
+                d.opening(at[i], what, due[i][what]);
+            }
+        }
+        d.opening(116, 0, NONE);
+        d.of(0, 5, 3, 58);
+        d.of(1, 0, 3, 58);
+        d.of(1, 4, 4, 115);
     }
 
     private static void openingEndsAtLawfulBreaks() {

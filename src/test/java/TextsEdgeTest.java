@@ -411,11 +411,13 @@ public final class TextsEdgeTest {
         Check.due("20: digest() of a new object", x.digest(), digestOf(x));
         for (int[] c : changes) {
             x.para(c[0], c[1], c[2]);
-            x.ties(0, x.count(1) - 1, c[1] % 9 + 1);
         }
-        x.sets(0, 3);
+        x.ties(1, 0, 4);
+        x.ties(0, 2, 5);
+        x.sets(0, 4);
         x.sets(1, 1);
         x.type('a');
+        Check.isTrue("20: there are OPENINGS of some COST", x.count(8) > 2 && x.count(9) > 0);
         Check.due("20: digest() wraps around", x.digest(), digestOf(x));
         x.para(7, 7, 7);
         x.back();
