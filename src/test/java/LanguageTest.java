@@ -108,6 +108,8 @@ public final class LanguageTest {
         }
         Check.isTrue(c + " has few fields", fields <= MOST_FIELDS);
         for (Method m : c.getDeclaredMethods()) {
+            boolean inFace = FACE.stream().anyMatch(f -> f.contains(" " + m.getName() + "("));
+            Check.isTrue(m + " bears no public name", !inFace || Modifier.isPublic(m.getModifiers()));
             Check.isTrue(m + " has few parameters", m.getParameterCount() <= MOST_PARAMETERS);
         }
     }
