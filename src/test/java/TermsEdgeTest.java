@@ -29,7 +29,7 @@ public final class TermsEdgeTest {
         breaksFrom0ToAll();
         lawfulWithLeastOnBothSides();
         openingTakes0ToHigh();
-        mostOpenings();
+        veryManyOpenings();
         openingEndsAtLawfulBreaks();
         tiesOnOneOpening();
         onlyKeptTiesBind();
@@ -476,8 +476,8 @@ public final class TermsEdgeTest {
     }
 
     /** SIDE 0 has to end where SIDE 1 begins, and a LINE alone costs 14, two together 40. */
-    private static void mostOpenings() {
-        Desk d = Desk.with("OPENINGS 0 on, as many as there can be", "w0 9;w1 9;h2;l1;s9;a" + NINES + "a" + NINES + "a" + NINES,
+    private static void veryManyOpenings() {
+        Desk d = Desk.with("OPENINGS 0 on, far more than one SIDE has LINES", "w0 9;w1 9;h2;l1;s9;a" + NINES + "a" + NINES + "a" + NINES,
                 "a" + NINES + "a 9 9 9 9 9 9 9 9 9 9 9;a 9;", "b" + NINES + "b" + NINES + "b" + NINES + "b" + NINES);
         d.does("b" + NINES + "t 5 0 1;", 2);
         // 58 alone, then two of both, 56 alone, and two.
