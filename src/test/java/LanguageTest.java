@@ -22,6 +22,10 @@ public final class LanguageTest {
             "\\bassert\\b", "->", "::", "\\bimport\\b", "\\bpackage\\b", "\\bprotected\\b", "\\bequals\\b", "\\bhashCode\\b",
             "\\btoString\\b", "Exact\\b", "\\bMAX_VALUE\\b", "\\bMIN_VALUE\\b", "\\bvar\\b", "\\bfloat\\b", "\\bdouble\\b",
             "\\bstatic\\s*\\{", "\\[\\]\\s*\\[\\]");
+    /** Of what rule 4 allows, that which the class has a use for. */
+    private static final Set<String> LIBRARY = Set.of("System.arraycopy", "Math.min", "Math.max", "Integer.bitCount");
+    private static final Set<Class<?>> STATIC_TYPES = Set.of(int.class, long.class, boolean.class, char.class, String.class,
+            int[].class, long[].class, char[].class, byte[].class);
     private static final int LONGEST_METHOD = 60;
     private static final int MOST_PARAMETERS = 7;
     private static final int MOST_CLASSES = 12;
@@ -35,6 +39,7 @@ public final class LanguageTest {
         Check.isTrue("signs 1 to 127 alone", source.chars().allMatch(c -> c > 0 && c < 128));
         Check.isTrue("public members are the face's", count(source, "\\bpublic\\b") == FACE.size() + 3);
         methodsAreShort(source);
+        libraryIsSmall(source);
         faceIsWhole();
         classesAreSmall();
         Check.end();
@@ -58,6 +63,22 @@ public final class LanguageTest {
             Check.isTrue(m.group().lines().findFirst().orElse("") + " has " + lines + " lines", lines <= LONGEST_METHOD);
         }
         Check.isTrue("methods are found", methods > FACE.size());
+    }
+
+    /** A name with a great letter ahead of a point is one of the library's classes or of the class's own. */
+    private static void libraryIsSmall(String source) {
+        Set<String> own = new TreeSet<>();
+        for (Class<?> c : FacingPages.class.getDeclaredClasses()) {
+            own.add(c.getSimpleName());
+        }
+        Matcher m = Pattern.compile("\\b([A-Z]\\w*)\\.\\w+").matcher(source);
+        int calls = 0;
+        while (m.find()) {
+            calls++;
+            Check.isTrue(m.group() + " is of the library that is allowed", own.contains(m.group(1)) || LIBRARY.contains(m.group()));
+        }
+        Check.isTrue("calls of the library are found", calls > 0);
+        Check.isTrue("no name with java ahead", !Pattern.compile("\\bjavax?\\.").matcher(source).find());
     }
 
     private static void faceIsWhole() {
@@ -102,6 +123,7 @@ public final class LanguageTest {
         for (Field f : c.getDeclaredFields()) {
             if (Modifier.isStatic(f.getModifiers())) {
                 Check.isTrue(f + " is final", Modifier.isFinal(f.getModifiers()));
+                Check.isTrue(f + " is of a type for constants", STATIC_TYPES.contains(f.getType()));
             } else {
                 fields++;
             }
